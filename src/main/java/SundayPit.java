@@ -44,7 +44,8 @@ public final class SundayPit {
     private static final int REFUSED_UNDO = 4;
     private static final int REFUSED_SEED = 5;
 
-    // In a formula's code numbers up to 9999 stand for themselves; what is above is one of these.
+    // In a formula's code numbers up to 9999 stand for themselves; what is above is one of these,
+    // and from FIRST_FACT on a fact.
     private static final int OP_STOP = 10000;
     private static final int OP_NOT = 10001;
     private static final int OP_TUBS = 10002;
@@ -59,20 +60,19 @@ public final class SundayPit {
     private static final int OP_OVER = 10011;
     private static final int OP_MIN = 10012;
     private static final int OP_MAX = 10013;
+    // Facts of a cell and of a house, by their places in the row of facts.
     private static final int FIRST_FACT = 20000;
-    private static final int FACT_NUMBER = 20000;
-    private static final int FACT_DEPTH = 20001;
-    private static final int FACT_ACROSS = 20002;
-    private static final int FACT_REST = 20003;
-    private static final int FACT_GAS = 20004;
-    private static final int FACT_NEAR = 20005;
-    private static final int FACT_SPAN = 20006;
-    private static final int FACT_WHOLE = 20007;
-    private static final int FACT_OPEN = 20008;
-    private static final int FACT_FALLEN = 20009;
-    private static final int HOUSE_OPEN = 20010;
-    private static final int HOUSE_FALLEN = 20011;
-    private static final int HOUSE_ACROSS = 20012;
+    private static final int FACT_NUMBER = 0;
+    private static final int FACT_DEPTH = 1;
+    private static final int FACT_ACROSS = 2;
+    private static final int FACT_REST = 3;
+    private static final int FACT_GAS = 4;
+    private static final int FACT_NEAR = 5;
+    private static final int FACT_SPAN = 6;
+    private static final int FACT_WHOLE = 7;
+    private static final int FACT_OPEN = 8;
+    private static final int FACT_FALLEN = 9;
+    private static final int FACTS = 10;
 
     private final Tape tape;
     private final Tape picture;
@@ -96,16 +96,16 @@ public final class SundayPit {
 
     public SundayPit() {
         Plan told = new Plan();
-        Plan next = new Plan();
+        Plan coming = new Plan();
         Ground now = new Ground();
         Reader eyes = new Reader();
         told.clear();
-        next.clear();
+        coming.clear();
         now.start(told);
         tape = new Tape(MOST_BYTES);
         picture = new Tape(Ground.FIXED_BYTES + MOST_KINDS + MOST_CELLS);
         plan = told;
-        draft = next;
+        draft = coming;
         ground = now;
         mine = new Mine(told, now);
         history = new History();
@@ -113,7 +113,7 @@ public final class SundayPit {
         drill = new Bores(told);
         storage = new Storage(told, now);
         reader = eyes;
-        planReader = new PlanReader(eyes, next);
+        planReader = new PlanReader(eyes, coming);
         question = new Question(eyes);
         refused = new int[6];
         verdict = new int[3];
@@ -301,7 +301,9 @@ public final class SundayPit {
             return refuse(REFUSED_ACT);
         }
         beginAct();
-        return mine.dig(cell);
+        int worth = mine.price(cell);
+        mine.dig(cell, worth);
+        return worth;
     }
 
     public boolean prop(int cell) {
@@ -475,7 +477,8 @@ public final class SundayPit {
         if (cell == NONE) {
             return false;
         }
-        int worth = mine.dig(cell);
+        int worth = mine.price(cell);
+        mine.dig(cell, worth);
         if (draw(100) >= plan.gasOf(cell)) {
             return false;
         }
@@ -542,7 +545,10 @@ public final class SundayPit {
 
     /** The pit as it is told. A seam's cell is its kind and 1, or 0 for rock. */
     private static final class Plan {
+        static final int WAYS = 4;
+
         int statements;
+        int cells;
         int columns;
         int shaft;
         int rows;
@@ -558,11 +564,13 @@ public final class SundayPit {
         final int[] houseNames = new int[MOST_HOUSES * NAME_LETTERS];
         final int[] houseColumns = new int[MOST_HOUSES];
         final int[] seam = new int[MOST_CELLS];
+        private final int[] besides = new int[WAYS * MOST_CELLS];
         // A token of the text makes at most one step of code, so no text needs more.
         final int[] code = new int[MOST_BYTES];
 
         void clear() {
             statements = 0;
+            cells = 0;
             columns = 0;
             shaft = 0;
             rows = 0;
@@ -594,6 +602,7 @@ public final class SundayPit {
             copyRow(other.houseColumns, houseColumns);
             copyRow(other.seam, seam);
             copyRow(other.code, code);
+            layOut();
         }
 
         private static void copyRow(int[] from, int[] to) {
@@ -604,12 +613,21 @@ public final class SundayPit {
             return statements > 0;
         }
 
-        int cells() {
-            return Math.min(MOST_CELLS, columns * rows);
+        /** Numbers the cells, and finds for each one those above, left, right and below. */
+        private void layOut() {
+            cells = Math.min(MOST_CELLS, columns * rows);
+            Arrays.fill(besides, NONE);
+            for (int cell = 0; cell < cells; cell++) {
+                int column = columnOf(cell);
+                besides[WAYS * cell] = cell >= columns ? cell - columns : NONE;
+                besides[WAYS * cell + 1] = column > 0 ? cell - 1 : NONE;
+                besides[WAYS * cell + 2] = column < columns - 1 ? cell + 1 : NONE;
+                besides[WAYS * cell + 3] = cell + columns < cells ? cell + columns : NONE;
+            }
         }
 
         boolean isCell(int cell) {
-            return cell >= 0 && cell < cells();
+            return cell >= 0 && cell < cells;
         }
 
         int columnOf(int cell) {
@@ -644,18 +662,9 @@ public final class SundayPit {
             return kind >= 0 && kind < kinds ? gas[kind] : 0;
         }
 
-        /** The cell beside this one: above, left, right, below; NONE beyond the seam. */
+        /** The cell beside this one, on one of four ways; NONE beyond the seam. */
         int beside(int cell, int way) {
-            int column = columnOf(cell);
-            int other = NONE;
-            switch (way) {
-                case 0: other = cell - columns; break;
-                case 1: other = column > 0 ? cell - 1 : NONE; break;
-                case 2: other = column < columns - 1 ? cell + 1 : NONE; break;
-                case 3: other = cell + columns; break;
-                default: break;
-            }
-            return isCell(other) ? other : NONE;
+            return isCell(cell) && way >= 0 && way < WAYS ? besides[WAYS * cell + way] : NONE;
         }
 
         int findName(int[] names, int count, int[] name) {
@@ -746,7 +755,7 @@ public final class SundayPit {
             for (int kind = 0; kind < plan.kinds && kind < MOST_KINDS; kind++) {
                 out.add(store[kind]);
             }
-            for (int cell = 0; cell < plan.cells(); cell++) {
+            for (int cell = 0; cell < plan.cells; cell++) {
                 out.add(state[cell]);
             }
             out.add(out.guard(out.length()));
@@ -755,7 +764,7 @@ public final class SundayPit {
         static boolean isImage(Plan plan, Tape in) {
             int length = in.length();
             int firstCell = HEAD_BYTES + plan.kinds;
-            if (length != FIXED_BYTES + plan.kinds + plan.cells()) {
+            if (length != FIXED_BYTES + plan.kinds + plan.cells) {
                 return false;
             }
             if (in.at(0) > plan.settings[PROPS] || in.threeAt(1) > MOST_SUM || in.threeAt(4) > MOST_SUM) {
@@ -777,7 +786,7 @@ public final class SundayPit {
             for (int kind = 0; kind < plan.kinds && kind < MOST_KINDS; kind++) {
                 store[kind] = in.at(HEAD_BYTES + kind);
             }
-            for (int cell = 0; cell < plan.cells(); cell++) {
+            for (int cell = 0; cell < plan.cells; cell++) {
                 state[cell] = in.at(HEAD_BYTES + plan.kinds + cell);
             }
         }
@@ -796,8 +805,8 @@ public final class SundayPit {
         private final int[] reached = new int[MOST_CELLS];
         private final int[] queue = new int[MOST_CELLS];
         private final int[] stack = new int[STACK];
+        private final int[] facts = new int[FACTS];
         private int waiting;
-        private int depth;
 
         Mine(Plan plan, Ground ground) {
             this.plan = plan;
@@ -808,11 +817,11 @@ public final class SundayPit {
         void look() {
             Arrays.fill(reached, 0);
             waiting = 0;
-            if (plan.cells() > 0) {
+            if (plan.cells > 0) {
                 reach(plan.shaft);
             }
             for (int i = 0; i < waiting && i < queue.length; i++) {
-                for (int way = 0; way < 4; way++) {
+                for (int way = 0; way < Plan.WAYS; way++) {
                     reach(plan.beside(queue[i], way));
                 }
             }
@@ -840,11 +849,15 @@ public final class SundayPit {
                 return 2;
             }
             int start = plan.formulas[MAY];
-            return start == NONE || value(plan.code, start, cell) != 0 ? 0 : 3;
+            if (start == NONE) {
+                return 0;
+            }
+            loadCell(cell);
+            return value(plan.code, start) != 0 ? 0 : 3;
         }
 
         private boolean isBesideReached(int cell) {
-            for (int way = 0; way < 4; way++) {
+            for (int way = 0; way < Plan.WAYS; way++) {
                 if (isReached(plan.beside(cell, way))) {
                     return true;
                 }
@@ -855,7 +868,7 @@ public final class SundayPit {
         int countCuttable() {
             look();
             int count = 0;
-            for (int cell = 0; cell < plan.cells(); cell++) {
+            for (int cell = 0; cell < plan.cells; cell++) {
                 if (why(cell) == 0) {
                     count++;
                 }
@@ -867,7 +880,7 @@ public final class SundayPit {
         int cuttable(int ahead) {
             look();
             int count = 0;
-            for (int cell = 0; cell < plan.cells(); cell++) {
+            for (int cell = 0; cell < plan.cells; cell++) {
                 if (why(cell) == 0) {
                     if (count == ahead) {
                         return cell;
@@ -880,7 +893,7 @@ public final class SundayPit {
 
         int countOfKind(int kind, boolean wholeOnly) {
             int count = 0;
-            for (int cell = 0; cell < plan.cells(); cell++) {
+            for (int cell = 0; cell < plan.cells; cell++) {
                 if (plan.kindOf(cell) == kind && (!wholeOnly || ground.is(cell, WHOLE))) {
                     count++;
                 }
@@ -890,7 +903,7 @@ public final class SundayPit {
 
         int near(int cell) {
             int count = 0;
-            for (int way = 0; way < 4; way++) {
+            for (int way = 0; way < Plan.WAYS; way++) {
                 if (ground.isOpen(plan.beside(cell, way))) {
                     count++;
                 }
@@ -898,10 +911,11 @@ public final class SundayPit {
             return count;
         }
 
+        /** Asked of a cell of the seam only, as spanEnd() is. */
         private int spanStart(int cell) {
-            int first = cell - plan.columnOf(cell);
+            int first = Math.max(0, cell - plan.columnOf(cell));
             for (int i = cell - 1; i >= first; i--) {
-                if (!ground.is(i, CUT)) {
+                if (ground.state[i] != CUT) {
                     return i + 1;
                 }
             }
@@ -909,9 +923,9 @@ public final class SundayPit {
         }
 
         private int spanEnd(int cell) {
-            int last = cell - plan.columnOf(cell) + plan.columns - 1;
+            int last = Math.min(MOST_CELLS, cell - plan.columnOf(cell) + plan.columns) - 1;
             for (int i = cell + 1; i <= last; i++) {
-                if (!ground.is(i, CUT)) {
+                if (ground.state[i] != CUT) {
                     return i - 1;
                 }
             }
@@ -934,29 +948,28 @@ public final class SundayPit {
             if (start == NONE) {
                 return plan.restOf(cell);
             }
-            return Math.max(0, Math.min(MOST_WORTH, value(plan.code, start, cell)));
+            loadCell(cell);
+            return Math.max(0, Math.min(MOST_WORTH, value(plan.code, start)));
         }
 
-        /** Cuts a cell that can be cut: what its tub is worth. */
-        int dig(int cell) {
+        /** Cuts a cell that can be cut; its price is asked for ahead of it, as all is then. */
+        void dig(int cell, int worth) {
             if (!plan.isCell(cell)) {
-                return 0;
+                return;
             }
-            int worth = price(cell);
             int kind = plan.kindOf(cell);
-            boolean falls = wouldFall(cell);
+            int first = spanStart(cell);
+            int last = spanEnd(cell);
             if (kind >= 0 && kind < MOST_KINDS) {
                 ground.store[kind]++;
             }
             ground.worth += worth;
             ground.state[cell] = CUT;
-            if (falls) {
-                int last = spanEnd(cell);
-                for (int i = spanStart(cell); i <= last; i++) {
+            if (last - first + 1 > plan.settings[HOLDS]) {
+                for (int i = first; i <= last; i++) {
                     fell(i);
                 }
             }
-            return worth;
         }
 
         /** The blast of a cell that was cut just now, its tub being worth so much. */
@@ -967,7 +980,7 @@ public final class SundayPit {
             }
             ground.worth -= worth;
             fell(cell);
-            for (int way = 0; way < 4; way++) {
+            for (int way = 0; way < Plan.WAYS; way++) {
                 int other = plan.beside(cell, way);
                 if (ground.isOpen(other)) {
                     fell(other);
@@ -982,111 +995,91 @@ public final class SundayPit {
         }
 
         int tiltOf(int house) {
+            loadHouse(house);
             int start = plan.formulas[TILT];
             int tilt = start == NONE
-                    ? houseFact(HOUSE_OPEN, house) + 2 * houseFact(HOUSE_FALLEN, house)
-                    : value(plan.code, start, house);
+                    ? facts[FACT_OPEN] + 2 * facts[FACT_FALLEN]
+                    : value(plan.code, start);
             return Math.max(0, Math.min(MOST_TILT, tilt));
         }
 
-        /** What a formula's code gives for a cell or a house; a test gives 1 or 0. */
-        int value(int[] code, int start, int subject) {
-            depth = 0;
+        /** The facts of a cell; due ahead of value(). */
+        void loadCell(int cell) {
+            facts[FACT_NUMBER] = cell;
+            facts[FACT_DEPTH] = plan.rowOf(cell);
+            facts[FACT_ACROSS] = plan.columnOf(cell);
+            facts[FACT_REST] = plan.restOf(cell);
+            facts[FACT_GAS] = plan.gasOf(cell);
+            facts[FACT_NEAR] = near(cell);
+            facts[FACT_SPAN] = span(cell);
+            facts[FACT_WHOLE] = ground.is(cell, WHOLE) ? 1 : 0;
+            facts[FACT_OPEN] = ground.isOpen(cell) ? 1 : 0;
+            facts[FACT_FALLEN] = ground.is(cell, FALLEN) ? 1 : 0;
+        }
+
+        /** The facts of a house; the others are not asked of it. */
+        private void loadHouse(int house) {
+            Arrays.fill(facts, 0);
+            if (house < 0 || house >= plan.houses || house >= MOST_HOUSES) {
+                return;
+            }
+            int across = plan.houseColumns[house];
+            facts[FACT_ACROSS] = across;
+            for (int cell = 0; cell < plan.cells; cell++) {
+                if (Math.abs(plan.columnOf(cell) - across) <= 1) {
+                    facts[FACT_OPEN] += ground.isOpen(cell) ? 1 : 0;
+                    facts[FACT_FALLEN] += ground.is(cell, FALLEN) ? 1 : 0;
+                }
+            }
+        }
+
+        /** What a formula's code gives with the facts that are loaded; a test gives 1 or 0. */
+        int value(int[] code, int start) {
+            int depth = 0;
             for (int i = Math.max(0, start); i < code.length; i++) {
-                if (code[i] == OP_STOP) {
+                int op = code[i];
+                if (op == OP_STOP) {
                     break;
                 }
-                step(code[i], subject);
+                if (op < OP_STOP || op >= FIRST_FACT) {
+                    if (depth < stack.length) {
+                        stack[depth] = op < OP_STOP ? op : factAt(op - FIRST_FACT);
+                        depth++;
+                    }
+                } else if (op == OP_NOT || op == OP_TUBS) {
+                    if (depth > 0) {
+                        int last = stack[depth - 1];
+                        stack[depth - 1] = op == OP_NOT ? 1 - last : ground.tubs(last);
+                    }
+                } else if (depth > 1) {
+                    depth--;
+                    stack[depth - 1] = join(op, stack[depth - 1], stack[depth]);
+                }
             }
-            return pop();
+            return depth > 0 ? stack[depth - 1] : 0;
         }
 
-        private void step(int op, int subject) {
-            if (op < OP_STOP) {
-                push(op);
-            } else if (op >= HOUSE_OPEN) {
-                push(houseFact(op, subject));
-            } else if (op >= FIRST_FACT) {
-                push(cellFact(op, subject));
-            } else if (op == OP_NOT) {
-                push(pop() == 0 ? 1 : 0);
-            } else if (op == OP_TUBS) {
-                push(ground.tubs(pop()));
-            } else {
-                int right = pop();
-                int left = pop();
-                push(join(op, left, right));
-            }
-        }
-
-        private void push(int value) {
-            if (depth < stack.length) {
-                stack[depth] = value;
-                depth++;
-            }
-        }
-
-        private int pop() {
-            if (depth <= 0) {
-                return 0;
-            }
-            depth--;
-            return stack[depth];
+        private int factAt(int which) {
+            return which >= 0 && which < facts.length ? facts[which] : 0;
         }
 
         private static int join(int op, int left, int right) {
+            long value = 0;
             switch (op) {
-                case OP_OR: return left | right;
-                case OP_AND: return left & right;
-                case OP_LESS: return left < right ? 1 : 0;
-                case OP_MORE: return left > right ? 1 : 0;
-                case OP_SAME: return left == right ? 1 : 0;
-                case OP_PLUS: return bound((long) left + right);
-                case OP_MINUS: return bound((long) left - right);
-                case OP_TIMES: return bound((long) left * right);
-                case OP_OVER: return right == 0 ? 0 : Math.floorDiv(left, right);
-                case OP_MIN: return Math.min(left, right);
-                case OP_MAX: return Math.max(left, right);
-                default: return 0;
+                case OP_OR: value = left | right; break;
+                case OP_AND: value = left & right; break;
+                case OP_LESS: value = left < right ? 1 : 0; break;
+                case OP_MORE: value = left > right ? 1 : 0; break;
+                case OP_SAME: value = left == right ? 1 : 0; break;
+                case OP_PLUS: value = (long) left + right; break;
+                case OP_MINUS: value = (long) left - right; break;
+                case OP_TIMES: value = (long) left * right; break;
+                case OP_OVER: value = right == 0 ? 0 : Math.floorDiv(left, right); break;
+                case OP_MIN: value = Math.min(left, right); break;
+                case OP_MAX: value = Math.max(left, right); break;
+                default: break;
             }
-        }
-
-        private static int bound(long value) {
             return (int) Math.max(-MOST_VALUE, Math.min(MOST_VALUE, value));
-        }
-
-        private int cellFact(int op, int cell) {
-            switch (op) {
-                case FACT_NUMBER: return cell;
-                case FACT_DEPTH: return plan.rowOf(cell);
-                case FACT_ACROSS: return plan.columnOf(cell);
-                case FACT_REST: return plan.restOf(cell);
-                case FACT_GAS: return plan.gasOf(cell);
-                case FACT_NEAR: return near(cell);
-                case FACT_SPAN: return span(cell);
-                case FACT_WHOLE: return ground.is(cell, WHOLE) ? 1 : 0;
-                case FACT_OPEN: return ground.isOpen(cell) ? 1 : 0;
-                case FACT_FALLEN: return ground.is(cell, FALLEN) ? 1 : 0;
-                default: return 0;
-            }
-        }
-
-        private int houseFact(int op, int house) {
-            if (house < 0 || house >= plan.houses || house >= MOST_HOUSES) {
-                return 0;
-            }
-            int across = plan.houseColumns[house];
-            if (op == HOUSE_ACROSS) {
-                return across;
-            }
-            int count = 0;
-            for (int cell = 0; cell < plan.cells(); cell++) {
-                boolean isSo = op == HOUSE_OPEN ? ground.isOpen(cell) : ground.is(cell, FALLEN);
-                if (isSo && Math.abs(plan.columnOf(cell) - across) <= 1) {
-                    count++;
-                }
-            }
-            return count;
         }
     }
 
@@ -1178,7 +1171,9 @@ public final class SundayPit {
                 mine.look();
                 why = mine.why(order.at(i));
                 if (why == 0) {
-                    worth += mine.dig(order.at(i));
+                    int price = mine.price(order.at(i));
+                    mine.dig(order.at(i), price);
+                    worth += price;
                     count++;
                 }
             }
@@ -1228,10 +1223,12 @@ public final class SundayPit {
             }
             Mine mine = levels[level];
             mine.look();
-            for (int cell = 0; cell < plan.cells(); cell++) {
+            for (int cell = 0; cell < plan.cells; cell++) {
                 if (mine.why(cell) == 0 && !mine.wouldFall(cell)) {
+                    int price = mine.price(cell);
                     path[level] = cell;
-                    tryAll(level + 1, turns, worth + digBelow(level, turns, cell));
+                    digBelow(level, cell, price);
+                    tryAll(level + 1, turns, worth + price);
                 }
             }
         }
@@ -1244,14 +1241,12 @@ public final class SundayPit {
             }
         }
 
-        /** Cuts a cell on the next level's ground, but for the last turn, behind which none looks. */
-        private int digBelow(int level, int turns, int cell) {
-            Mine mine = levels[level];
-            if (level + 1 >= turns || level + 1 >= levels.length) {
-                return mine.price(cell);
+        /** Cuts a cell on the next level's ground; behind the last level none looks. */
+        private void digBelow(int level, int cell, int price) {
+            if (level + 1 < levels.length) {
+                levels[level + 1].ground.copyFrom(levels[level].ground);
+                levels[level + 1].dig(cell, price);
             }
-            levels[level + 1].ground.copyFrom(mine.ground);
-            return levels[level + 1].dig(cell);
         }
 
         int tellRivals(int turns, int k) {
@@ -1273,10 +1268,11 @@ public final class SundayPit {
             boolean isFound = false;
             Arrays.fill(lines[level], IS_OVER);
             mine.look();
-            for (int cell = 0; cell < plan.cells(); cell++) {
+            for (int cell = 0; cell < plan.cells; cell++) {
                 if (mine.why(cell) == 0) {
-                    int gain = digBelow(level, turns, cell);
-                    int worth = gain - duel(level + 1, turns);
+                    int price = mine.price(cell);
+                    digBelow(level, cell, price);
+                    int worth = price - duel(level + 1, turns);
                     if (!isFound || worth > most) {
                         isFound = true;
                         most = worth;
@@ -1366,7 +1362,7 @@ public final class SundayPit {
             int bits = fitBits();
             int found = NONE;
             int fewest = SHIFTS + 1;
-            for (int cell = 0; cell < plan.cells() && bits != 0; cell++) {
+            for (int cell = 0; cell < plan.cells && bits != 0; cell++) {
                 int most = countAlike(bits, cell);
                 if (most < fewest) {
                     fewest = most;
@@ -1595,15 +1591,19 @@ public final class SundayPit {
         }
 
         boolean failHere(int what) {
-            return fail(what, start);
+            fault = what;
+            place = start;
+            return false;
         }
 
-        private static boolean isLetter(int sign) {
-            return sign >= 'a' && sign <= 'z';
-        }
-
-        private static boolean isDigit(int sign) {
-            return sign >= '0' && sign <= '9';
+        private static int sortOf(int sign) {
+            if (sign == NONE) {
+                return IS_END;
+            }
+            if (sign >= 'a' && sign <= 'z') {
+                return IS_WORD;
+            }
+            return sign >= '0' && sign <= '9' ? IS_NUMBER : IS_MARK;
         }
 
         private static boolean isBlank(int sign) {
@@ -1620,32 +1620,15 @@ public final class SundayPit {
             boolean touches = wasLong && from == stop;
             start = from;
             stop = from;
-            if (isLetter(tape.at(from))) {
-                sort = IS_WORD;
-                skipWord();
-            } else if (isDigit(tape.at(from))) {
-                sort = IS_NUMBER;
-                skipNumber();
-            } else if (from < tape.length()) {
-                sort = IS_MARK;
+            sort = sortOf(tape.at(from));
+            if (sort == IS_MARK) {
                 stop = from + 1;
-            } else {
-                sort = IS_END;
             }
-            if (touches && (sort == IS_WORD || sort == IS_NUMBER)) {
-                sort = IS_STUCK;
-            }
-        }
-
-        private void skipWord() {
-            for (int i = start; i < tape.length() && isLetter(tape.at(i)); i++) {
-                stop = i + 1;
-            }
-        }
-
-        private void skipNumber() {
-            for (int i = start; i < tape.length() && isDigit(tape.at(i)); i++) {
-                stop = i + 1;
+            if (sort == IS_WORD || sort == IS_NUMBER) {
+                for (int i = from; i < tape.length() && sortOf(tape.at(i)) == sort; i++) {
+                    stop = i + 1;
+                }
+                sort = touches ? IS_STUCK : sort;
             }
         }
 
@@ -1769,31 +1752,33 @@ public final class SundayPit {
             }
         }
 
-        /** A whole formula, of facts of that sort. */
-        boolean readFormula(boolean isTest, int whose) {
+        /** Ahead of a formula: whose facts it may ask for. */
+        void beginFormula(int whose) {
             subject = whose;
             open = 0;
-            boolean isRead = isTest ? readTest() : readSum();
-            emit(OP_STOP);
-            return isRead;
         }
 
-        /** Goes behind what opens one level more; with it the depth of the reading is bounded. */
+        /** Behind a formula; always true, so that a row of readings can end with it. */
+        boolean endFormula() {
+            emit(OP_STOP);
+            return true;
+        }
+
+        /** One level more, here; with it the depth of the reading is bounded. */
         private boolean openOne() {
             if (open >= MOST_OPEN) {
                 return failHere(4);
             }
             open++;
-            step();
             return true;
         }
 
-        private boolean close(int sign) {
+        private boolean closeOne() {
             open--;
-            return takeMark(sign);
+            return true;
         }
 
-        private boolean readTest() {
+        boolean readTest() {
             boolean isRead = readBoth();
             for (int i = 0; i < MOST_BYTES && isRead && wordHere() == WORD_OR; i++) {
                 step();
@@ -1814,34 +1799,22 @@ public final class SundayPit {
         }
 
         private boolean readFact() {
-            if (wordHere() == WORD_NOT) {
+            int word = wordHere();
+            if (word == WORD_NOT) {
                 return readNot();
             }
             if (isMark('[')) {
-                return openOne() && readTest() && close(']');
+                return openOne() && takeMark('[') && readTest() && takeMark(']') && closeOne();
             }
-            if (wordHere() == WORD_ALL) {
+            if (word == WORD_ALL) {
                 emit(1);
                 step();
                 return true;
             }
-            return readComparison();
-        }
-
-        private boolean readNot() {
-            if (!openOne() || !readFact()) {
-                return false;
-            }
-            open--;
-            emit(OP_NOT);
-            return true;
-        }
-
-        private boolean readComparison() {
             if (!readSum()) {
                 return false;
             }
-            int op = isMark('<') ? OP_LESS : isMark('>') ? OP_MORE : isMark('=') ? OP_SAME : NONE;
+            int op = signHere();
             if (op == NONE) {
                 return failHere(1);
             }
@@ -1851,7 +1824,25 @@ public final class SundayPit {
             return isRead;
         }
 
-        private boolean readSum() {
+        private int signHere() {
+            if (isMark('<')) {
+                return OP_LESS;
+            }
+            if (isMark('>')) {
+                return OP_MORE;
+            }
+            return isMark('=') ? OP_SAME : NONE;
+        }
+
+        private boolean readNot() {
+            if (!openOne() || !takeWord(WORD_NOT) || !readFact()) {
+                return false;
+            }
+            emit(OP_NOT);
+            return closeOne();
+        }
+
+        boolean readSum() {
             boolean isRead = readProduct();
             for (int i = 0; i < MOST_BYTES && isRead && (isMark('+') || isMark('-')); i++) {
                 int op = isMark('+') ? OP_PLUS : OP_MINUS;
@@ -1874,72 +1865,68 @@ public final class SundayPit {
         }
 
         private boolean readPart() {
-            if (sort == IS_NUMBER) {
-                return readConstant();
-            }
             if (isMark('(')) {
-                return openOne() && readSum() && close(')');
+                return openOne() && takeMark('(') && readSum() && takeMark(')') && closeOne();
             }
             int word = wordHere();
-            if (word == WORD_MIN) {
-                return readChoice(OP_MIN);
-            }
-            if (word == WORD_MAX) {
-                return readChoice(OP_MAX);
+            if (word == WORD_MIN || word == WORD_MAX) {
+                return readChoice(word);
             }
             if (word == WORD_TUBS && subject == OF_QUESTION) {
                 return readTubs();
             }
-            int fact = subject == OF_HOUSE ? houseFact(word) : cellFact(word);
-            if (fact == NONE) {
-                return failHere(1);
-            }
-            emit(fact);
-            step();
-            return true;
-        }
-
-        private boolean readConstant() {
-            int value = numberHere();
-            if (value == NONE) {
+            int op = sort == IS_NUMBER ? numberHere() : factFor(word);
+            if (op == NONE) {
                 return false;
             }
-            emit(value);
+            emit(op);
             step();
             return true;
         }
 
-        private boolean readChoice(int op) {
+        private boolean readChoice(int word) {
             step();
             if (!isMark('(')) {
                 return failHere(1);
             }
-            if (!openOne() || !readSum() || !takeMark(',') || !readSum() || !close(')')) {
+            if (!openOne() || !takeMark('(') || !readSum() || !takeMark(',') || !readSum() || !takeMark(')')) {
                 return false;
             }
-            emit(op);
-            return true;
+            emit(word == WORD_MIN ? OP_MIN : OP_MAX);
+            return closeOne();
         }
 
         private boolean readTubs() {
-            if (!openOne() || !readPart()) {
+            if (!openOne() || !takeWord(WORD_TUBS) || !readPart()) {
                 return false;
             }
-            open--;
             emit(OP_TUBS);
-            return true;
+            return closeOne();
+        }
+
+        /** The code for a fact's word; NONE with a fault. */
+        private int factFor(int word) {
+            int fact = subject == OF_HOUSE ? houseFact(word) : cellFact(word);
+            if (fact == NONE && subject == OF_QUESTION) {
+                fact = questionFact(word);
+            }
+            if (fact == NONE) {
+                failHere(1);
+                return NONE;
+            }
+            return FIRST_FACT + fact;
         }
 
         private static int houseFact(int word) {
             switch (word) {
-                case WORD_OPEN: return HOUSE_OPEN;
-                case WORD_FALLEN: return HOUSE_FALLEN;
-                case WORD_ACROSS: return HOUSE_ACROSS;
+                case WORD_OPEN: return FACT_OPEN;
+                case WORD_FALLEN: return FACT_FALLEN;
+                case WORD_ACROSS: return FACT_ACROSS;
                 default: return NONE;
             }
         }
 
-        private int cellFact(int word) {
+        private static int cellFact(int word) {
             switch (word) {
                 case WORD_DEPTH: return FACT_DEPTH;
                 case WORD_ACROSS: return FACT_ACROSS;
@@ -1947,7 +1934,7 @@ public final class SundayPit {
                 case WORD_GAS: return FACT_GAS;
                 case WORD_NEAR: return FACT_NEAR;
                 case WORD_SPAN: return FACT_SPAN;
-                default: return subject == OF_QUESTION ? questionFact(word) : NONE;
+                default: return NONE;
             }
         }
 
@@ -1998,9 +1985,9 @@ public final class SundayPit {
                 case Reader.WORD_ROW: return readRow();
                 case Reader.WORD_HOUSE: return readHouse();
                 case Reader.WORD_MIX: return readMix();
-                case Reader.WORD_MAY: return readRule(MAY);
-                case Reader.WORD_WORTH: return readRule(WORTH);
-                case Reader.WORD_TILT: return readRule(TILT);
+                case Reader.WORD_MAY: return beginRule(MAY) && reader.readTest() && reader.endFormula();
+                case Reader.WORD_WORTH: return beginRule(WORTH) && reader.readSum() && reader.endFormula();
+                case Reader.WORD_TILT: return beginRule(TILT) && reader.readSum() && reader.endFormula();
                 case Reader.WORD_HOLDS: return readSetting(HOLDS, 1, 8);
                 case Reader.WORD_PROPS: return readSetting(PROPS, 0, 20);
                 case Reader.WORD_LEANS: return readSetting(LEANS, 0, 999);
@@ -2146,13 +2133,14 @@ public final class SundayPit {
             return kind;
         }
 
-        private boolean readRule(int which) {
+        private boolean beginRule(int which) {
             if (draft.formulas[which] != NONE) {
                 return reader.failHere(5);
             }
             draft.formulas[which] = reader.codeSize();
+            reader.beginFormula(which == TILT ? Reader.OF_HOUSE : Reader.OF_CELL);
             reader.step();
-            return reader.readFormula(which == MAY, which == TILT ? Reader.OF_HOUSE : Reader.OF_CELL);
+            return true;
         }
 
         private boolean readSetting(int which, int low, int high) {
@@ -2183,8 +2171,10 @@ public final class SundayPit {
             if (head < Reader.WORD_FIRST) {
                 return reader.failHere(1);
             }
+            reader.beginFormula(Reader.OF_QUESTION);
             reader.step();
-            if (!reader.readFormula(isOfTest(), Reader.OF_QUESTION)) {
+            boolean isRead = isOfTest() ? reader.readTest() : reader.readSum();
+            if (!isRead || !reader.endFormula()) {
                 return false;
             }
             return reader.isEnd() || reader.failHere(1);
@@ -2197,9 +2187,9 @@ public final class SundayPit {
         long answer(Mine mine, int[] code) {
             boolean isPlace = head == Reader.WORD_FIRST || head == Reader.WORD_LAST;
             long answer = isPlace ? NONE : 0;
-            for (int cell = 0; cell < mine.plan.cells(); cell++) {
-                int value = mine.value(code, 0, cell);
-                answer = goOn(answer, value, cell);
+            for (int cell = 0; cell < mine.plan.cells; cell++) {
+                mine.loadCell(cell);
+                answer = goOn(answer, mine.value(code, 0), cell);
             }
             return answer;
         }
