@@ -1778,7 +1778,7 @@ public final class SundayPit {
             return true;
         }
 
-        boolean readTest() {
+        private boolean readTest() {
             boolean isRead = readBoth();
             for (int i = 0; i < MOST_BYTES && isRead && wordHere() == WORD_OR; i++) {
                 step();
@@ -1842,7 +1842,7 @@ public final class SundayPit {
             return closeOne();
         }
 
-        boolean readSum() {
+        private boolean readSum() {
             boolean isRead = readProduct();
             for (int i = 0; i < MOST_BYTES && isRead && (isMark('+') || isMark('-')); i++) {
                 int op = isMark('+') ? OP_PLUS : OP_MINUS;
