@@ -219,5 +219,6 @@ final class AskBounds extends Words {
     if (b[7] < 256) Bench.no("the same mod 251 only " + v, Bench.on(y, b));
     b[7] = right;
     Bench.yes("the right last byte " + v, Bench.on(y, b));
+    Bench.due("it is no CELL " + v, y.has(10) + y.has(11), 0);
   }
 }

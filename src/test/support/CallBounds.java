@@ -142,6 +142,7 @@ final class CallBounds extends Words {
     Bench.due("of 1600 bytes", Bench.pit(x, P3 + " ".repeat(1600 - 11 - 8) + "holds 1;"), 2);
     Bench.due("fewer CELLS than ahead of it", x.cell(0, 0), NONE);
     counted("nothing is refused", x, 0, 0);
+    toldAgain();
     Bench.promise(4, "NONE, refused (1), with a FAULT (all stays;");
     SundayPit y = worked();
     for (String text : new String[] {"", "x", "pit 4 at 0;kind z rest 9 gas 9;row aaaa;house q at 3;mix z z;", "pit 8 at 8;", "pit 5 at 4;holds 8;props 20;leans 0;may not all;worth 9;tilt 9;?"}) {
@@ -177,6 +178,30 @@ final class CallBounds extends Words {
     for (int i = 0; i < 5; i++) Bench.due("BLASTS by the same seed, day " + i, z.days(1), same.days(1));
     Bench.lie("the seed stays", z, Bench.cells(same));
   }
+
+  /** One object is told one pit behind the other: nothing of an earlier one is left. */
+  private static void toldAgain() {
+    SundayPit x = new SundayPit();
+    for (int i = 0; i < 3; i++) {
+      Bench.due("as full as can be, " + i, Bench.pit(x, FULL), 30);
+      for (int k = 0; k < 14; k++) Bench.due("as full as can be, has(" + k + ")", x.has(k), FULL_HAS[k]);
+      Bench.due("as full as can be, MIXES of the last KIND", x.kind(4, 3), 15);
+      if (i == 1) Bench.due("a FAULT lies between", Bench.pit(x, FULL + "?"), NONE);
+    }
+    Bench.due("BEST", x.best(1, NONE), 4);
+    Bench.due("RIVALS", x.rivals(1, NONE), 4);
+    Bench.due("a small one", Bench.pit(x, SMALL), 5);
+    Bench.due("BEST of the small one", x.best(1, NONE), 5);
+    Bench.due("RIVALS of the small one", x.rivals(1, NONE), 5);
+    int[] small = {3, 2, 2, 0, 0, 3, 5, 0, 0, 0, 0, 0, 1, 0};
+    for (int k = 0; k < 14; k++) Bench.due("a small one, has(" + k + ")", x.has(k), small[k]);
+    Bench.due("no MIXES", x.kind(0, 3) + x.kind(1, 3), 0);
+    Bench.due("no shaft of the full one", x.cell(1, 5), 0);
+  }
+
+  private static final String FULL = "pit 8 at 3;" + FIVE + "row abcdexxx;" + "row aaaaaaaa;".repeat(5)
+      + "house f at 0;house g at 0;house h at 0;house i at 0;house j at 0;house klmnop at 0;" + TEN + "holds 8;props 20;";
+  private static final int[] FULL_HAS = {8, 6, 5, 6, 10, 8, 20, 0, 0, 0, 0, 0, 1, 0};
 
   /** A pit with something of everything; stays() tells whether all is so still. */
   private static SundayPit worked() {
@@ -246,10 +271,8 @@ final class CallBounds extends Words {
 
   private static void has() {
     Bench.promise(6, "How many there are: 0 COLUMNS, 1 ROWS, 2 KINDS, 3 HOUSES, 4 MIXES, 5 holds, 6 props left, 7 tubs in STORE, 8 worth of all that were cut, 9 rest had, 10 OPEN CELLS, 11 FALLEN ones, 12 CELLS that CAN BE CUT, 13 ACTS that can be undone.");
-    SundayPit x = Bench.told("pit 8 at 3;" + FIVE + "row abcdexxx;" + "row aaaaaaaa;".repeat(5)
-        + "house f at 0;house g at 0;house h at 0;house i at 0;house j at 0;house k at 0;" + TEN + "holds 8;props 20;");
-    int[] full = {8, 6, 5, 6, 10, 8, 20, 0, 0, 0, 0, 0, 1, 0};
-    for (int i = 0; i < 14; i++) Bench.due("full, has(" + i + ")", x.has(i), full[i]);
+    SundayPit x = Bench.told(FULL);
+    for (int i = 0; i < 14; i++) Bench.due("as full as can be, has(" + i + ")", x.has(i), FULL_HAS[i]);
     SundayPit y = Bench.told(SMALL + "holds 1;worth 10;");
     y.cut(1);
     y.prop(1);
@@ -278,7 +301,15 @@ final class CallBounds extends Words {
           String n = names[kind][which];
           Bench.due("letter(" + kind + ", " + which + ", " + k + ")", x.letter(kind, which, k), k < n.length() ? n.charAt(k) - 'a' + 1 : 0);
         }
+    SundayPit full = Bench.told(FULL);
+    for (int i = 0; i < 5; i++) {
+      Bench.due("KIND " + i, full.letter(0, i, 0), 1 + i);
+      Bench.due("HOUSE " + i, full.letter(1, i, 0), 6 + i);
+    }
+    for (int k = 0; k < 6; k++) Bench.due("the sixth HOUSE, letter " + k, full.letter(1, 5, k), 11 + k);
     Bench.promise(7, "NONE when there is none such.");
+    Bench.due("no sixth KIND", full.letter(0, 5, 0), NONE);
+    Bench.due("no seventh HOUSE", full.letter(1, 6, 0), NONE);
     int[][] none = {{0, 0, 6}, {0, 0, -1}, {0, 0, MAX}, {0, 0, MIN}, {0, 2, 0}, {0, -1, 0}, {0, MAX, 0}, {0, MIN, 0}, {1, 2, 0}, {1, -1, 0},
         {1, 0, 6}, {2, 0, 0}, {-1, 0, 0}, {MAX, 0, 0}, {MIN, 0, 0}};
     for (int[] n : none) Bench.due("letter(" + n[0] + ", " + n[1] + ", " + n[2] + ")", x.letter(n[0], n[1], n[2]), NONE);
@@ -438,7 +469,10 @@ final class CallBounds extends Words {
     }
     x.cut(0);
     Bench.due("as it is now", x.rivals(1, NONE), 5);
+    Bench.due("no turns", x.rivals(0, NONE), 0);
+    Bench.due("one", x.rivals(1, NONE), 5);
     x.undo();
+    Bench.due("no turns", x.rivals(0, NONE), 0);
     Bench.due("as it is now", x.rivals(1, NONE), 3);
     Bench.due("without a pit", new SundayPit().rivals(3, 2), 100);
     Bench.promise(14, "NOTHING for others.");
@@ -531,6 +565,8 @@ final class CallBounds extends Words {
     Bench.due("rest", x.has(9), 5);
     Bench.due("ACTS", x.has(13), 3);
     Bench.due("tubs", x.has(7), 1);
+    Bench.no("no sixth KIND", Bench.told(FULL).burn(5));
+    Bench.no("the fifth has none", Bench.told(FULL).burn(4));
     Bench.no("without a pit", new SundayPit().burn(0));
   }
 
@@ -842,6 +878,8 @@ final class CallBounds extends Words {
     y.cut(1);
     x.seed(9);
     y.seed(9);
+    Bench.due("BEST ahead of it: but rock all would fall", y.best(1, NONE), 0);
+    Bench.due("RIVALS ahead of it", y.rivals(1, NONE), 4);
     Bench.yes("on", Bench.on(y, b));
     Bench.due("the tape goes", Bench.tape(y), 0);
     Bench.no("nothing can be undone", y.undo());
@@ -849,10 +887,15 @@ final class CallBounds extends Words {
     for (int i = 0; i < 14; i++) Bench.due("as it tells: has(" + i + ")", y.has(i), has[i]);
     Bench.lie("as it tells", y, "op....");
     Bench.due("tubs of each", y.kind(0, 2) * 10 + y.kind(1, 2), 10);
-    Bench.due("best as it tells", y.best(1, NONE), 6);
+    Bench.due("BEST as it tells", y.best(1, NONE), 6);
+    Bench.due("RIVALS as it tells", y.rivals(1, NONE), 6);
     Bench.due("the seed is none of it", sameDays(x, y), 1);
     SundayPit bare = Bench.told(P3);
     Bench.yes("of a PIT without CELLS", Bench.on(bare, Bench.image(bare)));
+    String most = "op#.o".repeat(10).substring(0, 48);
+    SundayPit full = Bench.worked(FULL, most);
+    Bench.lie("48 CELLS", full, most);
+    Bench.due("OPEN and FALLEN ones", full.has(10) * 100 + full.has(11), 2910);
     onLimits(b);
     Bench.promise(29, "or there is no pit, all staying.");
     SundayPit none = new SundayPit();

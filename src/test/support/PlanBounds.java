@@ -223,6 +223,12 @@ final class PlanBounds extends Words {
     Bench.due("a whole ROW of rock: it lies one lower", full.fits(1), bit(-2, 1) + bit(-1, 1) + bit(0, 1) + bit(1, 1) + bit(2, 1));
     Bench.due("of five: coal by 3, rock by 2", full.next(0), 5);
     Bench.due("at the most", full.next(1), 3);
+    for (char c = 'a'; c <= 'e'; c++) {
+      String row = "row " + String.valueOf(c).repeat(5) + ";";
+      SundayPit kinds = Bench.told("pit 5 at 0;" + FIVE + row.repeat(2));
+      Bench.due("of KIND " + c + " alone", kinds.next(0), 1);
+      Bench.due("of KIND " + c + " at the most", kinds.next(1), 8);
+    }
     Bench.terms("of like ones the first.");
     SundayPit rock = Bench.told("pit 3 at 0;row xxx;row xxx;");
     Bench.due("all rock: the first CELL", rock.next(0), 0);

@@ -499,6 +499,9 @@ final class TextBounds extends Words {
     Bench.bad(two + "kind ^h rest 1 gas 0;", 3);
     Bench.bad(two + "house ^h", 3);
     Bench.bad(two + "house ^a at 0;", 3);
+    String many = P3 + FIVE + "house f at 0;house g at 0;house h at 0;house i at 0;house jklmno at 0;house ^";
+    for (String name : "a b c d e f g h i jklmno".split(" ")) Bench.bad(many + name, 3);
+    for (String name : "jklmn jklmnp k aa".split(" ")) Bench.good((many + name).replace("^", "") + " at 0;", 12);
     Bench.terms("one that is none of what is asked,");
     Bench.bad(two + "mix ^c a;", 3);
     Bench.bad(two + "mix a ^c;", 3);
