@@ -163,6 +163,9 @@ final class AskBounds extends Words {
     Bench.badAsk(x, "often not not not not not not 1=^tubs 1", 4);
     Bench.answers(x, "total " + "tubs 9+".repeat(20) + "tubs 9", 0);
     Bench.answers(x, "total tubs tubs tubs tubs tubs tubs 9+((((((1))))))", 6);
+    Bench.answers(x, "total " + "min(0,1)+".repeat(20) + "max(0,1)", 6);
+    Bench.badAsk(x, "total tubs tubs tubs tubs tubs tubs min ^1", 1);
+    Bench.badAsk(x, "total tubs tubs tubs tubs tubs tubs ^not", 1);
     Bench.answers(x, "often not not not not not not all and tubs 9=0", 6);
     Bench.answers(x, "often " + "not 1=2 and ".repeat(20) + "[all]", 6);
     Bench.answers(x, "total tubs(tubs(tubs 9))+tubs(tubs(tubs 9))", 0);

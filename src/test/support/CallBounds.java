@@ -39,6 +39,7 @@ final class CallBounds extends Words {
     octet();
     on();
     status();
+    manyCalls();
   }
 
   /** What is refused is counted there, once, and nowhere else. */
@@ -1000,5 +1001,24 @@ final class CallBounds extends Words {
         x.next(9);
         return NONE;
     }
+  }
+
+  private static void manyCalls() {
+    Bench.says("What it is", "An object is used for at most 512 calls after it has been made;");
+    SundayPit x = new SundayPit();
+    for (int i = 0; i < 511; i++) x.undo();
+    Bench.due("the 512th call", x.status(4), 511);
+    SundayPit y = Bench.told("pit 3 at 0;kind a rest 1 gas 0;row aaa;");
+    y.cut(0);
+    for (int i = 0; i < 250; i++) {
+      y.burn(0);
+      y.undo();
+    }
+    Bench.due("behind 250 acts undone", y.has(13), 1);
+    Bench.yes("the first is undone, too", y.undo());
+    Bench.no("no more", y.undo());
+    SundayPit z = Bench.told("pit 3 at 0;kind a rest 1 gas 0;row aaa;");
+    for (int i = 0; i < 500; i++) z.days(30);
+    Bench.due("behind 500 ACTS", z.has(13), 20);
   }
 }

@@ -95,6 +95,10 @@ final class PlanBounds extends Words {
     bestIs("one: the tub", more, 1, 99, 1);
     bestIs("two, though one alone is worth more", more, 2, 0, 3, 8);
     bestIs("three, though one alone is worth more", more, 3, 0, 3, 8, 9);
+    SundayPit last = Bench.worked("pit 5 at 2;kind a rest 99 gas 0;row xxxax;row xxxxx;holds 2;may depth=0 or across<2;", "..o.......");
+    bestIs("one: the tub, behind the others", last, 1, 99, 3);
+    bestIs("two, though one behind them is worth more", last, 2, 0, 1, 6);
+    bestIs("three, though one behind them is worth more", last, 3, 0, 1, 6, 5);
   }
 
   private static void duel(String what, SundayPit x, int n, long worth, int... cells) {

@@ -539,7 +539,12 @@ final class TextBounds extends Words {
     Bench.good(P3 + "worth max(min(max(min(max(min(1,2),3),4),5),6),7);tilt ((((((1))))));may [[[[[[all]]]]]];", 4);
     Bench.good(P3 + "may " + "not all and ".repeat(20) + "not all;", 2);
     Bench.good(P3 + "may " + "[all] or ".repeat(20) + "[all];", 2);
-    Bench.good(P3 + "worth " + "(1)+".repeat(20) + "min(1,2);", 2);
+    Bench.good(P3 + "worth " + "(1)+".repeat(20) + "(1);", 2);
+    Bench.good(P3 + "worth " + "min(1,2)+".repeat(20) + "max(1,2);", 2);
+    Bench.bad(P3 + "worth ((((((min ^1", 1);
+    Bench.bad(P3 + "worth ((((((max^;", 1);
+    Bench.bad(P3 + "worth ((((((^[", 1);
+    Bench.bad(P3 + "worth ((((((^not", 1);
     Bench.good(P3 + "may not not not not not not 1=1 and (1)=(1);", 2);
     Bench.good(P3 + "may [not not not not not all and not not not not not all] or [[[[[[all]]]]]];", 2);
   }
